@@ -82,7 +82,7 @@ public final class GrammarMachine {
         }
         refuseUnlessSound(rule);
         chart.fill(grammar, textRow, textLength, place);
-        latestRow = chart.rowOf(rule, place);
+        latestRow = Chart.rowOf(rule, place);
         return chart.endOf(latestRow);
     }
 
@@ -91,7 +91,7 @@ public final class GrammarMachine {
         refuseUnlessSound(rule);
         chart.fill(grammar, textRow, textLength, 0);
         for (int place = 0; place <= textLength; place++) {
-            latestRow = chart.rowOf(rule, place);
+            latestRow = Chart.rowOf(rule, place);
             if (chart.endOf(latestRow) != FAILED) {
                 return place;
             }
@@ -490,7 +490,7 @@ public final class GrammarMachine {
             }
         }
 
-        int rowOf(int rule, int place) {
+        static int rowOf(int rule, int place) {
             return rule * PLACES + place;
         }
 
@@ -686,18 +686,18 @@ public final class GrammarMachine {
 
         @Override
         int endFrom(int place, Chart chart) {
-            int reachedPlace = place;
+            int at = place;
             // Each turn but the last takes a character, so there are never more turns than places.
             for (int turn = 0; turn < most; turn++) {
                 int before = chart.captureCount();
-                int end = part.endFrom(reachedPlace, chart);
+                int end = part.endFrom(at, chart);
                 if (end == FAILED) {
                     chart.takeBackTo(before);
-                    return turn < least ? FAILED : reachedPlace;
+                    return turn < least ? FAILED : at;
                 }
-                reachedPlace = end;
+                at = end;
             }
-            return reachedPlace;
+            return at;
         }
 
         @Override

@@ -621,6 +621,8 @@ public final class PromisesTest {
     due("no match", m.captures(), 0);
     setText(m, "ab");
     m.match(0, 0);
+    m.match(0, 0);
+    due("of the latest match alone", capturesOf(m), "0-1 1-2");
     m.clear();
     m.text('x');
     defineLine(m, "A={x}");
