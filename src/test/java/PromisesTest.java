@@ -1,18 +1,5 @@
-import java.util.Objects;
-
 /** The promises of the document, each by hand: ordinary inputs, the edges that are named, wrong inputs. */
-public final class PromisesTest {
-  private static final Class<?> ARGUMENT = IllegalArgumentException.class;
-  private static final Class<?> INDEX = IndexOutOfBoundsException.class;
-  private static final Class<?> STATE = IllegalStateException.class;
-
-  private static int wrong = 0;
-  private static String part = "";
-
-  interface Call {
-    Object run();
-  }
-
+public final class PromisesTest extends DueAnswers {
   public static void main(String[] args) {
     throwsChangeNothing();
     newObject();
@@ -41,132 +28,11 @@ public final class PromisesTest {
     farthest();
     tried();
     largest();
-    System.out.println(wrong == 0 ? "all answers are as due" : wrong + " answers are not as due");
-    if (wrong != 0) System.exit(1);
-  }
-
-  private static void due(String call, Object got, Object want) {
-    if (!Objects.equals(got, want)) {
-      wrong++;
-      System.out.println(part + ": " + call + " answered " + got + ", due is " + want);
-    }
-  }
-
-  private static void dueThrow(String call, Class<?> want, Call made) {
-    Object got;
-    try {
-      got = made.run();
-    } catch (RuntimeException e) {
-      got = e.getClass();
-    }
-    due(call, got, want);
-  }
-
-  private static int four(String s) {
-    int four = 0;
-    for (int i = s.length() - 1; i >= 0; i--) four = four << 8 | s.charAt(i);
-    return four;
-  }
-
-  private static boolean typeAll(GrammarMachine m, String s) {
-    boolean all = true;
-    for (int i = 0; i < s.length(); i += 4) all &= m.type(four(s.substring(i, Math.min(i + 4, s.length()))));
-    return all;
-  }
-
-  private static void setText(GrammarMachine m, String s) {
-    m.clear();
-    for (int i = 0; i < s.length(); i += 4) {
-      if (!m.text(four(s.substring(i, Math.min(i + 4, s.length()))))) throw new AssertionError("no room for " + s);
-    }
-  }
-
-  private static int defineLine(GrammarMachine m, String line) {
-    if (!typeAll(m, line)) throw new AssertionError("no room for " + line);
-    return m.define();
-  }
-
-  private static GrammarMachine with(String... lines) {
-    GrammarMachine m = new GrammarMachine();
-    for (String line : lines) defineLine(m, line);
-    return m;
-  }
-
-  private static int firstRule(String... lines) {
-    return lines[0].charAt(0) - 'A';
-  }
-
-  /** A machine whose latest match is that of the first line's rule at the beginning of a text. */
-  private static GrammarMachine matched(String text, String... lines) {
-    GrammarMachine m = with(lines);
-    setText(m, text);
-    m.match(firstRule(lines), 0);
-    return m;
-  }
-
-  private static String lineOf(GrammarMachine m, int rule) {
-    StringBuilder s = new StringBuilder();
-    for (int k = 0; m.shown(rule, k) != 0; k++) s.append(m.shown(rule, k));
-    return s.toString();
-  }
-
-  /** The captures of the latest match, as in "0-3 1-2". */
-  private static String capturesOf(GrammarMachine m) {
-    StringBuilder s = new StringBuilder();
-    for (int i = 0; i < m.captures(); i++) {
-      s.append(i == 0 ? "" : " ").append(m.capture(i, 0)).append('-').append(m.capture(i, 1));
-    }
-    return s.toString();
-  }
-
-  /** All that can be looked at without a change. */
-  private static String stateOf(GrammarMachine m) {
-    StringBuilder s = new StringBuilder();
-    for (int rule = 0; rule < 4; rule++) s.append(lineOf(m, rule)).append(' ').append(m.check(rule)).append(' ');
-    return s.append(capturesOf(m)).append(' ').append(m.farthest()).append(' ').append(m.tried()).toString();
-  }
-
-  private static void dueMatch(String text, int place, int want, String... lines) {
-    GrammarMachine m = with(lines);
-    setText(m, text);
-    due(String.join(" ", lines) + " at " + place + " of '" + text + "'", m.match(firstRule(lines), place), want);
-  }
-
-  private static void dueCaptures(String text, String want, String... lines) {
-    due(String.join(" ", lines) + " captures in '" + text + "'", capturesOf(matched(text, lines)), want);
-  }
-
-  private static void dueFarthest(String text, int want, String... lines) {
-    due(String.join(" ", lines) + " farthest in '" + text + "'", matched(text, lines).farthest(), want);
-  }
-
-  private static void dueTried(String text, int want, String... lines) {
-    due(String.join(" ", lines) + " tried in '" + text + "'", matched(text, lines).tried(), want);
-  }
-
-  private static void dueCheck(int want, String... lines) {
-    due(String.join(" ", lines) + " checked", with(lines).check(firstRule(lines)), want);
-  }
-
-  private static void dueRefused(String line) {
-    GrammarMachine m = with("A=a", "B=b", "C=c", "D=d");
-    String before = stateOf(m);
-    typeAll(m, line);
-    dueThrow("define of " + line, ARGUMENT, () -> m.define());
-    due("state after " + line, stateOf(m), before);
-    due("the line is empty after " + line, defineLine(m, "C=.z"), 2);
-    due("the line is empty after " + line, lineOf(m, 2), "C=.z");
-  }
-
-  private static void dueDefined(String line) {
-    GrammarMachine m = new GrammarMachine();
-    due("typing " + line, typeAll(m, line), true);
-    dueThrow("define of " + line, null, () -> m.define() == line.charAt(0) - 'A' ? null : "another rule");
-    due("line of " + line, lineOf(m, line.charAt(0) - 'A'), line);
+    finish();
   }
 
   private static void throwsChangeNothing() {
-    part = "terms";
+    part("terms");
     GrammarMachine m = with("A={a}*b", "B=C");
     setText(m, "aab");
     m.match(0, 0);
@@ -186,7 +52,7 @@ public final class PromisesTest {
   }
 
   private static void newObject() {
-    part = "promise 1";
+    part("promise 1");
     GrammarMachine m = new GrammarMachine();
     for (int rule = 0; rule < 4; rule++) {
       due("shown", m.shown(rule, 0), (char) 0);
@@ -205,7 +71,7 @@ public final class PromisesTest {
   }
 
   private static void type() {
-    part = "promise 2";
+    part("promise 2");
     GrammarMachine m = new GrammarMachine();
     due("none", m.type(0), true);
     due("none, whatever is behind", m.type(0xff010200), true);
@@ -236,7 +102,7 @@ public final class PromisesTest {
   }
 
   private static void define() {
-    part = "promise 3";
+    part("promise 3");
     for (String name : new String[] {"A", "B", "C", "D"}) dueDefined(name + "=a");
     for (String choice : new String[] {"z", "0", "9", ".", "[a-z]", "[0-9]", "[z-a]", "[5-x]", "A", "D", "(a)", "{a}", "{}",
         "a*", "a+", "a?", "&a", "!a", "&!&!!a", "!a*", "a/b", "a/b/c", "ab/cd", "(a/b)c", "{a/b}*", "{}{}", "{}*", "({})",
@@ -252,7 +118,7 @@ public final class PromisesTest {
   }
 
   private static void defineRefuses() {
-    part = "promise 3, refused";
+    part("promise 3, refused");
     for (String line : new String[] {"", "A", "A=", "=a", "a=a", "E=a", "A=E", "@=a", "A:a", "Aa", "AA=a", "A==a", "A=a=",
         " A=a", "A =a", "A= a", "A=a ", "A=a b", "A=/", "A=a/", "A=/a", "A=a//b", "A=*", "A=+a", "A=?", "A=a**", "A=a*+", "A=a??",
         "A=&", "A=!", "A=a&", "A=a!", "A=&/a", "A=a!*", "A=()", "A=(", "A=)", "A=(a", "A=a)", "A=((a)", "A=(a))", "A=(a/)",
@@ -264,7 +130,7 @@ public final class PromisesTest {
   }
 
   private static void defineLimitsDepth() {
-    part = "promise 3, depth";
+    part("promise 3, depth");
     dueDefined("A=((((((a))))))");
     dueDefined("B={{{{{{a}}}}}}");
     dueDefined("C=({({({a})})})");
@@ -280,7 +146,7 @@ public final class PromisesTest {
   }
 
   private static void drop() {
-    part = "promise 4";
+    part("promise 4");
     GrammarMachine m = with("A=a", "D=d");
     dueThrow("drop(-1)", INDEX, () -> m.drop(-1));
     dueThrow("drop(4)", INDEX, () -> m.drop(4));
@@ -297,7 +163,7 @@ public final class PromisesTest {
   }
 
   private static void shown() {
-    part = "promise 5";
+    part("promise 5");
     GrammarMachine m = with("B=a/(bc)*", "D=345678901234567abc");
     due("the first", m.shown(1, 0), 'B');
     due("the second", m.shown(1, 1), '=');
@@ -321,7 +187,7 @@ public final class PromisesTest {
   }
 
   private static void text() {
-    part = "promise 6";
+    part("promise 6");
     GrammarMachine m = new GrammarMachine();
     due("none", m.text(0), true);
     due("none, whatever is behind", m.text(0x80ff0100), true);
@@ -347,7 +213,7 @@ public final class PromisesTest {
   }
 
   private static void clear() {
-    part = "promise 7";
+    part("promise 7");
     GrammarMachine m = with("A={.}*");
     setText(m, "abcdefghi");
     m.match(0, 0);
@@ -365,7 +231,7 @@ public final class PromisesTest {
   }
 
   private static void checkFindsUndefined() {
-    part = "promise 8, not defined";
+    part("promise 8, not defined");
     GrammarMachine m = new GrammarMachine();
     dueThrow("check(-1)", INDEX, () -> m.check(-1));
     dueThrow("check(4)", INDEX, () -> m.check(4));
@@ -384,7 +250,7 @@ public final class PromisesTest {
   }
 
   private static void checkFindsLeftRecursion() {
-    part = "promise 8, starts with itself";
+    part("promise 8, starts with itself");
     dueCheck(2, "A=A");
     dueCheck(2, "A=Aa/a");
     dueCheck(2, "A=a/Aa");
@@ -419,13 +285,13 @@ public final class PromisesTest {
     dueCheck(0, "A=BCDA/a", "B=b?", "C=c+", "D={}");
     dueCheck(2, "A=DA", "B=b?", "C=B", "D=C");
     dueCheck(2, "A=BA", "D=d?", "C=D", "B=C");
-    part = "promise 8, empty-able only as it follows";
+    part("promise 8, empty-able only as it follows");
     dueCheck(0, "A=B", "B=bB/bC", "C=cC/c");
     dueCheck(2, "A=BA", "B=B/b");
   }
 
   private static void checkFindsRounds() {
-    part = "promise 8, goes round";
+    part("promise 8, goes round");
     dueCheck(0, "A=a*");
     dueCheck(3, "A=(a*)*");
     dueCheck(3, "A=(a*)+");
@@ -456,7 +322,7 @@ public final class PromisesTest {
   }
 
   private static void checkOrder() {
-    part = "promise 8, the first of these";
+    part("promise 8, the first of these");
     dueCheck(1, "A=A(a*)*B");
     dueCheck(2, "A=A(a*)*");
     dueCheck(2, "A={}*B", "B=B");
@@ -468,7 +334,7 @@ public final class PromisesTest {
   }
 
   private static void matchAtoms() {
-    part = "promise 9, atoms";
+    part("promise 9, atoms");
     dueMatch("a", 0, 1, "A=a");
     dueMatch("b", 0, -1, "A=a");
     dueMatch("", 0, -1, "A=a");
@@ -494,7 +360,7 @@ public final class PromisesTest {
   }
 
   private static void matchRepeats() {
-    part = "promise 9, * + ?";
+    part("promise 9, * + ?");
     dueMatch("aaab", 0, 3, "A=a*");
     dueMatch("b", 0, 0, "A=a*");
     dueMatch("", 0, 0, "A=a*");
@@ -511,7 +377,7 @@ public final class PromisesTest {
   }
 
   private static void matchLooks() {
-    part = "promise 9, & !";
+    part("promise 9, & !");
     dueMatch("ab", 0, 0, "A=&a");
     dueMatch("ab", 0, -1, "A=&b");
     dueMatch("ab", 0, -1, "A=!a");
@@ -528,7 +394,7 @@ public final class PromisesTest {
   }
 
   private static void matchChoicesAndRules() {
-    part = "promise 9, choices and rules";
+    part("promise 9, choices and rules");
     dueMatch("ab", 0, 1, "A=a/ab");
     dueMatch("ab", 0, 2, "A=ab/a");
     dueMatch("ac", 0, 1, "A=ab/a");
@@ -547,7 +413,7 @@ public final class PromisesTest {
   }
 
   private static void matchThrows() {
-    part = "promise 9, throws";
+    part("promise 9, throws");
     GrammarMachine m = with("A=a", "B=B", "C={}*");
     setText(m, "aa");
     due("at the end of the text", m.match(0, 2), -1);
@@ -570,7 +436,7 @@ public final class PromisesTest {
   }
 
   private static void find() {
-    part = "promise 10";
+    part("promise 10");
     GrammarMachine m = with("A={b}c/B", "B=zz", "C=C", "D={}");
     setText(m, "abbc");
     due("find", m.find(0), 2);
@@ -605,7 +471,7 @@ public final class PromisesTest {
   }
 
   private static void captures() {
-    part = "promise 11";
+    part("promise 11");
     dueCaptures("abc", "0-3", "A={abc}");
     dueCaptures("abc", "0-1 1-2 2-3", "A={.}*");
     dueCaptures("abc", "0-1 2-3", "A={a}b{c}");
@@ -634,7 +500,7 @@ public final class PromisesTest {
   }
 
   private static void capturesTakenBack() {
-    part = "promise 11, taken back";
+    part("promise 11, taken back");
     dueCaptures("ab", "0-1 1-2", "A={a}c/{a}{b}");
     dueCaptures("ab", "", "A={a}c/ab");
     dueCaptures("abac", "0-1", "A=({a}b)*a");
@@ -655,7 +521,7 @@ public final class PromisesTest {
   }
 
   private static void capturesKept() {
-    part = "promise 11, the first 40";
+    part("promise 11, the first 40");
     GrammarMachine m = matched("z", "B=AAAA{.}", "A={}{}{}{}{}{}{}{}");
     due("33 captures", m.captures(), 33);
     due("the last of them", m.capture(32, 0) + "-" + m.capture(32, 1), "0-1");
@@ -681,7 +547,7 @@ public final class PromisesTest {
   }
 
   private static void capture() {
-    part = "promise 12";
+    part("promise 12");
     GrammarMachine none = new GrammarMachine();
     dueThrow("no match", INDEX, () -> none.capture(0, 0));
     GrammarMachine m = matched("xabc", "A=x{ab{c}}");
@@ -704,7 +570,7 @@ public final class PromisesTest {
   }
 
   private static void farthest() {
-    part = "promise 13";
+    part("promise 13");
     dueFarthest("abc", -1, "A=abc");
     dueFarthest("abc", 2, "A=abd");
     dueFarthest("ab", 2, "A=abc");
@@ -733,7 +599,7 @@ public final class PromisesTest {
   }
 
   private static void tried() {
-    part = "promise 14";
+    part("promise 14");
     dueTried("a", 1, "A=a");
     dueTried("b", 1, "A=a");
     dueTried("b", 2, "A=B", "B=a");
@@ -759,7 +625,7 @@ public final class PromisesTest {
 
   /** Grammars that go deep, or that would take ages if a rule were matched at a place again and again. */
   private static void largest() {
-    part = "largest";
+    part("largest");
     dueMatch("aaaaaaaaa", 0, 9, "A=((((((B))))))", "B=((((((C))))))", "C=((((((D))))))", "D=((((((.A?))))))");
     dueMatch("aaaaaaaaa", 0, -1, "A=B1/B2/B3/B4/B5", "B=C1/C2/C3/C4/C5", "C=D1/D2/D3/D4/D5", "D=.A1/.A2/.A3/.A4");
     dueTried("aaaaaaaaa", 40, "A=B1/B2/B3/B4/B5", "B=C1/C2/C3/C4/C5", "C=D1/D2/D3/D4/D5", "D=.A1/.A2/.A3/.A4");
