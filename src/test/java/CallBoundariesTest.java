@@ -7,30 +7,7 @@ public final class CallBoundariesTest extends DueAnswers {
   private static final int LAST_CALL = 512;
 
   public static void main(String[] args) {
-    newHasNoRules();
-    newHasNoLine();
-    newHasNoText();
-    newHasNoMatch();
-    newIsForItself();
-    dropDefined();
-    dropNotDefined();
-    dropThrows();
-    textLimit();
-    textTakesBytes();
-    textStopsAtZero();
-    textHasRoom();
-    textRefusesFirst();
-    clearAnswers();
-    clearEmpties();
-    clearLeavesTheRest();
-    throwingChangesNothing();
-    throwingInANewObject();
-    definingInVainEmptiesTheLine();
-    firstInTheThrowsClause();
-    lastCallMatches();
-    lastCallDefines();
-    lastCallAfterRefusals();
-    finish();
+    runAll(CallBoundariesTest.class);
   }
 
   /** Rules that check with 0, 2, 3 and 0, a text, a match with captures, and a line that is half typed. */
@@ -88,16 +65,20 @@ public final class CallBoundariesTest extends DueAnswers {
 
   private static void newIsForItself() {
     part("A new object: whatever was done with others before");
+    GrammarMachine alone = new GrammarMachine();
+    inUse(alone);
+    String want = held(alone);
     GrammarMachine used = new GrammarMachine();
     inUse(used);
-    String before = stateOf(used);
     GrammarMachine m = new GrammarMachine();
     due("a new object", stateOf(m), "    1 1 1 1 [] -1 0");
-    defineLine(m, "A=.");
-    setText(m, "xyz");
+    defineLine(m, "A={.}C");
+    defineLine(m, "C=z");
+    setText(m, "ihgfedcba");
     m.match(0, 2);
     m.drop(0);
-    due("the one in use", stateOf(used), before);
+    typeAll(m, "D=xyz*xyz");
+    due("the one in use", held(used), want);
   }
 
   private static void dropDefined() {

@@ -5,32 +5,7 @@
  */
 public final class CheckBoundariesTest extends DueAnswers {
   public static void main(String[] args) {
-    singlesAreNeverEmptyable();
-    namesAreEmptyableAsTheirRules();
-    bracketsAreEmptyableAsTheirChoices();
-    emptyBracesAlways();
-    starAndQuestionAlways();
-    plusWhenItsPartIs();
-    looksAlways();
-    sequencesWhenAllAre();
-    choicesWhenOneIs();
-    onlyWhenItFollows();
-    namesStart();
-    bracketsAndMarksStart();
-    sequencesStart();
-    choicesStart();
-    uses();
-    usesWhatTheseUse();
-    firstAnswer();
-    secondAnswer();
-    secondAnswerByWayOfOthers();
-    thirdAnswer();
-    noAnswerOfThose();
-    firstOfThese();
-    toldApartAndNotMatched();
-    checkChangesNothing();
-    checkThrows();
-    finish();
+    runAll(CheckBoundariesTest.class);
   }
 
   /** Whether p is empty-able, asked in both ways. More lines may define the rules B, C and D. */

@@ -1,3 +1,5 @@
+import java.lang.reflect.InvocationTargetException;
+import java.lang.reflect.Method;
 import java.util.Objects;
 
 /** What the tests have in common: asking a GrammarMachine, and telling every answer that is not the one that is due. */
@@ -26,9 +28,31 @@ abstract class DueAnswers {
     part = name;
   }
 
-  static void finish() {
-    System.out.println(wrong == 0 ? "all answers are as due" : wrong + " answers are not as due");
-    if (wrong != 0) System.exit(1);
+  /**
+   * Runs every test of a class, that is, every private method of it that takes and answers nothing. One that breaks off
+   * is wrong, and the others are run all the same.
+   */
+  static void runAll(Class<?> tests) {
+    int count = 0;
+    for (Method test : tests.getDeclaredMethods()) {
+      if (test.isSynthetic() || test.getParameterCount() > 0 || test.getReturnType() != void.class) continue;
+      count++;
+      run(test);
+    }
+    System.out.println(count + " tests: " + (wrong == 0 ? "all answers are as due" : wrong + " answers are not as due"));
+    if (wrong != 0 || count == 0) System.exit(1);
+  }
+
+  private static void run(Method test) {
+    part = test.getName();
+    try {
+      test.setAccessible(true);
+      test.invoke(null);
+    } catch (InvocationTargetException e) {
+      due(test.getName(), e.getCause(), "no break");
+    } catch (IllegalAccessException e) {
+      due(test.getName(), e, "no break");
+    }
   }
 
   static void due(String call, Object got, Object want) {

@@ -7,35 +7,7 @@ public final class LineBoundariesTest extends DueAnswers {
   private static final String TWENTY = "A=abcdefghijklmnopqr";
 
   public static void main(String[] args) {
-    names();
-    definedOrNot();
-    lineLimit();
-    nameEqualsChoice();
-    noBlanks();
-    choices();
-    sequences();
-    items();
-    pieces();
-    marksBehindAtoms();
-    singleCharacters();
-    everyCharacterInEveryPlace();
-    ranges();
-    parentheses();
-    braces();
-    typeTakesBytes();
-    typeStopsAtZero();
-    typeHasRoom();
-    typeRefusesFirst();
-    defineEmptiesTheLine();
-    defineReplaces();
-    defineAnswersTheRule();
-    defineTakesSixDeep();
-    defineRefusesSevenDeep();
-    defineCountsOpenOnes();
-    shownCharacters();
-    shownNone();
-    shownAfterChanges();
-    finish();
+    runAll(LineBoundariesTest.class);
   }
 
   private static String many(String s, int count) {
@@ -204,6 +176,8 @@ public final class LineBoundariesTest extends DueAnswers {
     for (char c = ' '; c <= '~'; c++) {
       dueLine("A=[" + c + "-z]", isPlain(c));
       dueLine("A=[0-" + c + "]", isPlain(c));
+      dueLine("A=[" + c + "-0]", isPlain(c));
+      dueLine("A=[z-" + c + "]", isPlain(c));
     }
     for (String none : new String[] {"[", "[a", "[a-", "[a-z", "]", "[]", "[-]", "[a-]", "[-z]", "[a]", "[az]", "[a--z]", "[aa-z]",
         "[a-zz]", "[a-z]]", "[[a-z]", "[a-z-9]", "[(a)-z]", "(a-z)", "[a-z)", "a-z", "[a-z"}) {

@@ -7,45 +7,7 @@ public final class MatchBoundariesTest extends DueAnswers {
   private static final String EIGHT = "A={}{}{}{}{}{}{}{}";
 
   public static void main(String[] args) {
-    endsNotBefore();
-    plainCharacters();
-    endOfText();
-    dots();
-    ranges();
-    namesAndBrackets();
-    emptyBraces();
-    star();
-    plus();
-    question();
-    looks();
-    sequences();
-    choices();
-    captureEnds();
-    capturesOfWhatFailed();
-    capturesOfLooks();
-    captureOrder();
-    firstForty();
-    fortyAndWhatFailed();
-    matchAnswers();
-    matchFails();
-    matchThrowsIndex();
-    matchThrowsState();
-    matchThrowsIndexFirst();
-    whatThrowsIsNoMatch();
-    findPlaces();
-    findIsOfTheLast();
-    findThrows();
-    capturesCount();
-    capturesStay();
-    captureAnswers();
-    captureThrows();
-    farthestPlaces();
-    farthestNone();
-    farthestOfLatest();
-    triedPairs();
-    triedOnce();
-    triedNone();
-    finish();
+    runAll(MatchBoundariesTest.class);
   }
 
   /** A machine with these lines and a text, at which nothing has been matched yet. */

@@ -1,34 +1,7 @@
 /** The promises of the document, each by hand: ordinary inputs, the edges that are named, wrong inputs. */
 public final class PromisesTest extends DueAnswers {
   public static void main(String[] args) {
-    throwsChangeNothing();
-    newObject();
-    type();
-    define();
-    defineRefuses();
-    defineLimitsDepth();
-    drop();
-    shown();
-    text();
-    clear();
-    checkFindsUndefined();
-    checkFindsLeftRecursion();
-    checkFindsRounds();
-    checkOrder();
-    matchAtoms();
-    matchRepeats();
-    matchLooks();
-    matchChoicesAndRules();
-    matchThrows();
-    find();
-    captures();
-    capturesTakenBack();
-    capturesKept();
-    capture();
-    farthest();
-    tried();
-    largest();
-    finish();
+    runAll(PromisesTest.class);
   }
 
   private static void throwsChangeNothing() {
