@@ -88,11 +88,18 @@ public final class MatchBoundariesTest extends DueAnswers {
     }
   }
 
-  private static void namesAndBrackets() {
-    part("A name is matched as its rule's pattern. ( choice ) and { choice } as the choice.");
-    for (String asB : new String[] {"B", "(B)", "{B}", "ab/a", "(ab/a)", "{ab/a}", "({(B)})", "C", "D"}) {
-      dueEnds("abaa", "2 -1 3 4 -1", "A=" + asB, "B=ab/a", "C=B", "D=(C)");
-    }
+  private static void names() {
+    part("A name is matched as its rule's pattern.");
+    for (String asB : new String[] {"B", "C", "D"}) dueEnds("abaa", "2 -1 3 4 -1", "A=" + asB, "B=ab/a", "C=B", "D=C");
+    dueEnds("", "-1", "A=B", "B=.");
+    dueEnds("", "0", "A=B", "B={}");
+  }
+
+  private static void brackets() {
+    part("( choice ) and { choice } as the choice.");
+    for (String choice : new String[] {"ab/a", "(ab/a)", "{ab/a}", "({(ab/a)})", "{{ab}/(a)}"}) dueEnds("abaa", "2 -1 3 4 -1", "A=" + choice);
+    dueEnds("ab", "-1 -1 -1", "A=(a/ab)!.");
+    dueEnds("ab", "-1 -1 -1", "A={a/ab}!.");
   }
 
   private static void emptyBraces() {
