@@ -4,6 +4,26 @@ public final class PromisesTest extends DueAnswers {
     runAll(PromisesTest.class);
   }
 
+  private static void example() {
+    part("the example of README.md");
+    GrammarMachine machine = new GrammarMachine();
+    machine.type('A' | '=' << 8 | '{' << 16 | 'a' << 24);
+    machine.type('}' | '*' << 8 | 'B' << 16);
+    due("define()", machine.define(), 0);
+    due("check(0)", machine.check(0), 1);
+    machine.type('B' | '=' << 8 | 'b' << 16);
+    due("define()", machine.define(), 1);
+    due("check(0)", machine.check(0), 0);
+    machine.text('a' | 'a' << 8 | 'b' << 16);
+    due("match(0, 0)", machine.match(0, 0), 3);
+    due("captures()", machine.captures(), 2);
+    due("capture(1, 0)", machine.capture(1, 0), 1);
+    due("capture(1, 1)", machine.capture(1, 1), 2);
+    due("farthest()", machine.farthest(), 2);
+    due("tried()", machine.tried(), 2);
+    due("find(1)", machine.find(1), 2);
+  }
+
   private static void throwsChangeNothing() {
     part("terms");
     GrammarMachine m = with("A={a}*b", "B=C");

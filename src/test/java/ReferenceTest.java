@@ -1,45 +1,52 @@
-import java.util.ArrayList;
-import java.util.HashSet;
-import java.util.List;
+import java.util.Map;
 import java.util.Objects;
 import java.util.Random;
-import java.util.Set;
-import java.util.TreeSet;
+import java.util.TreeMap;
 
-/**
- * Runs of made-up calls, each answered by GrammarMachine and by a model that takes the document's sentences as they
- * stand: it matches again whatever is asked for again, and builds its captures as lists. The seeds are fixed.
- */
+/** Runs of made-up calls, each answered by GrammarMachine and by the model. The seeds are fixed. */
 public final class ReferenceTest {
-  private static final int RUNS = 1500;
-  private static final int CALLS = 512;
+  /** An object is used for 512 calls at most; what is made at one go, a match and a look at its 40 captures, has 84. */
+  private static final int CALLS_BEFORE_LAST_GO = 512 - 84;
 
+  /**
+   * What the lines of a run are made of. Atoms are picked from a row of letters: a (a letter or digit), . (a dot), [ (a
+   * range), N (any name), L (the name of a later rule), E ({}), ( and {. One in so many items ends its sequence, has & or !
+   * in front, or * + ? behind. Rules whose sequences begin with dots, or that name later ones, can mostly be matched.
+   */
+  record Taste(int runs, String atoms, String letters, int depth, boolean dotsFirst, int endOneIn, int lookOneIn,
+      int markOneIn, String characters) {
+  }
+
+  private static final Taste[] TASTES = {
+    new Taste(1000, "aaa.[aNNE(({{", "aabbc1", 3, false, 4, 7, 4, "aaaabbbbcd1~"),
+    new Taste(1000, "EEEEEEEELLLLLLLLLL{{{{.", "", 3, false, 12, 30, 30, "aaaab"),
+    new Taste(900, "..NNNNNN(a", "ab", 2, true, 4, 30, 2, "aaaaaab"),
+    new Taste(200, "aE(({{{(", "ab", 9, false, 4, 20, 10, "ab"),
+    new Taste(200, "[[[a.{", "az09", 1, false, 4, 5, 4, " /09:@AZ`az{~"),
+  };
+
+  private static final Map<String, Integer> seen = new TreeMap<>();
   private static int wrong = 0;
-  private static final int[] checks = new int[4];
-  private static int matches = 0;
-  private static int captured = 0;
-  private static int refused = 0;
-  private static int defined = 0;
-  private static int abandoned = 0;
 
   public static void main(String[] args) {
-    for (int run = 0; run < RUNS && wrong < 20; run++) oneRun(run);
-    System.out.println(matches + " matches, " + captured + " captures looked at, " + defined + " lines defined, " + refused
-        + " refused, checks " + checks[0] + " " + checks[1] + " " + checks[2] + " " + checks[3] + ", " + abandoned
-        + " runs cut short");
-    boolean thin = matches < 1000 || captured < 1000 || defined < 1000 || refused < 1000
-        || checks[0] < 1000 || checks[1] < 1000 || checks[2] < 1000 || checks[3] < 1000 || abandoned > RUNS / 10;
-    if (thin) System.out.println("too few calls of some kind to tell anything");
+    for (int i = 0; i < TASTES.length; i++) {
+      for (int run = 0; run < TASTES[i].runs() && wrong < 20; run++) oneRun(TASTES[i], 10000 * i + run);
+    }
+    System.out.println(seen);
+    boolean thin = false;
+    for (String what : new String[] {"matches", "failed matches", "refused matches", "captures", "40 captures kept",
+        "more than 20 pairs", "nothing failed", "defined", "refused", "refused as too deep", "check 0", "check 1", "check 2",
+        "check 3"}) {
+      if (seen.getOrDefault(what, 0) >= 300) continue;
+      thin = true;
+      System.out.println("too few to tell anything: " + what);
+    }
     System.out.println(wrong == 0 ? "all answers are as due" : wrong + " answers are not as due");
     if (wrong != 0 || thin) System.exit(1);
   }
 
   interface Call {
     Object run();
-  }
-
-  /** The model's matching takes too long: the run is given up, which says nothing about GrammarMachine. */
-  static final class TooLong extends Error {
   }
 
   private static Object answer(Call call) {
@@ -50,524 +57,206 @@ public final class ReferenceTest {
     }
   }
 
-  private static Object compare(int run, StringBuilder calls, String call, Call real, Call model) {
-    Object want = answer(model);
-    Object got = answer(real);
-    calls.append(call).append(" -> ").append(want).append('\n');
-    if (!Objects.equals(got, want)) {
-      wrong++;
-      System.out.println("run " + run + ": " + call + " answered " + got + ", due is " + want + ", after\n" + calls);
-    }
-    return want;
+  private static void count(String what, boolean so) {
+    if (so) seen.merge(what, 1, Integer::sum);
   }
 
-  private static void oneRun(int run) {
-    Random random = new Random(run);
-    GrammarMachine x = new GrammarMachine();
-    Model y = new Model();
-    StringBuilder calls = new StringBuilder();
+  /** One object and its model, and the calls that they got so far. */
+  private static final class Pair {
+    final GrammarMachine x = new GrammarMachine();
+    final Model y = new Model();
+    final StringBuilder calls = new StringBuilder();
+    final Taste taste;
+    final int seed;
+    final Random random;
+    int made = 0;
+
+    Pair(Taste taste, int seed) {
+      this.taste = taste;
+      this.seed = seed;
+      this.random = new Random(seed);
+    }
+
+    Object compare(String call, Call real, Call model) {
+      made++;
+      Object want = answer(model);
+      Object got = answer(real);
+      calls.append(call).append(" -> ").append(want).append('\n');
+      if (!Objects.equals(got, want)) {
+        wrong++;
+        System.out.println("run " + seed + ": " + call + " answered " + got + ", due is " + want + ", after\n" + calls);
+      }
+      return want;
+    }
+
+    boolean oneIn(int n) {
+      return n > 0 && random.nextInt(n) == 0;
+    }
+
+    char oneOf(String s) {
+      return s.charAt(random.nextInt(s.length()));
+    }
+  }
+
+  private static void oneRun(Taste taste, int seed) {
+    Pair p = new Pair(taste, seed);
     try {
-      int made = 0;
-      while (made < CALLS && wrong < 20) made += someCalls(random, run, calls, x, y);
-    } catch (TooLong e) {
-      abandoned++;
+      for (int rule = 0; rule < 4; rule++) defineLine(p, rule);
+      while (p.made <= CALLS_BEFORE_LAST_GO && wrong < 20) someCalls(p);
+      count("runs", true);
+    } catch (Model.TooLong e) {
+      count("runs cut short", true);
     }
   }
 
-  private static int someCalls(Random random, int run, StringBuilder calls, GrammarMachine x, Model y) {
-    int rule = random.nextInt(50) == 0 ? random.nextInt(9) - 3 : random.nextInt(4);
+  private static void someCalls(Pair p) {
+    Random random = p.random;
+    int rule = p.oneIn(50) ? random.nextInt(9) - 3 : random.nextInt(4);
     switch (random.nextInt(16)) {
       case 0: case 1: case 2:
-        return defineLine(random, run, calls, x, y);
+        defineLine(p, random.nextInt(4));
+        break;
       case 3:
-        if (random.nextInt(4) > 0) return 0;
-        compare(run, calls, "drop(" + rule + ")", () -> x.drop(rule), () -> y.drop(rule));
-        return 1;
+        if (p.oneIn(4)) p.compare("drop(" + rule + ")", () -> p.x.drop(rule), () -> p.y.drop(rule));
+        break;
       case 4: {
         int k = random.nextInt(24) - 2;
-        compare(run, calls, "shown(" + rule + ", " + k + ")", () -> x.shown(rule, k), () -> y.shown(rule, k));
-        return 1;
+        p.compare("shown(" + rule + ", " + k + ")", () -> p.x.shown(rule, k), () -> p.y.shown(rule, k));
+        break;
       }
       case 5: case 6: {
-        int four = random.nextInt(20) == 0 ? random.nextInt() : someText(random);
-        compare(run, calls, "text(" + four + ")", () -> x.text(four), () -> y.text(four));
-        return 1;
+        int four = p.oneIn(20) ? random.nextInt() : someText(p);
+        p.compare("text(" + four + ")", () -> p.x.text(four), () -> p.y.text(four));
+        break;
       }
       case 7:
-        if (random.nextBoolean()) return 0;
-        compare(run, calls, "clear()", x::clear, y::clear);
-        return 1;
-      case 8: {
-        Object got = compare(run, calls, "check(" + rule + ")", () -> x.check(rule), () -> y.check(rule));
-        if (got instanceof Integer) checks[(Integer) got]++;
-        return 1;
-      }
+        if (p.oneIn(3)) p.compare("clear()", p.x::clear, p.y::clear);
+        break;
+      case 8:
+        count("check " + p.compare("check(" + rule + ")", () -> p.x.check(rule), () -> p.y.check(rule)), true);
+        break;
       case 9: case 10: case 11: {
-        int place = random.nextInt(20) == 0 ? random.nextInt(14) - 2 : random.nextInt(y.text.length() + 1);
-        Object end = compare(run, calls, "match(" + rule + ", " + place + ")", () -> x.match(rule, place), () -> y.match(rule, place));
-        return 1 + lookAtMatch(end, run, calls, x, y);
+        int place = p.oneIn(20) ? random.nextInt(14) - 2 : random.nextInt(p.y.text.length() + 1);
+        String call = "match(" + rule + ", " + place + ")";
+        lookAtMatch(p, p.compare(call, () -> p.x.match(rule, place), () -> p.y.match(rule, place)));
+        break;
       }
-      case 12: case 13: {
-        Object place = compare(run, calls, "find(" + rule + ")", () -> x.find(rule), () -> y.find(rule));
-        return 1 + lookAtMatch(place, run, calls, x, y);
-      }
-      case 14: {
-        int i = random.nextInt(45) - 2;
-        int what = random.nextInt(8) == 0 ? random.nextInt(6) - 2 : random.nextInt(2);
-        compare(run, calls, "capture(" + i + ", " + what + ")", () -> x.capture(i, what), () -> y.capture(i, what));
-        return 1;
-      }
-      default: {
-        int four = random.nextInt(4) == 0 ? random.nextInt() : someText(random);
-        if (random.nextInt(4) == 0) compare(run, calls, "type(" + four + ")", () -> x.type(four), () -> y.type(four));
-        return 1;
-      }
+      case 12: case 13:
+        lookAtMatch(p, p.compare("find(" + rule + ")", () -> p.x.find(rule), () -> p.y.find(rule)));
+        break;
+      case 14:
+        lookAtCapture(p, random.nextInt(45) - 2, p.oneIn(8) ? random.nextInt(6) - 2 : random.nextInt(2));
+        break;
+      default:
+        if (p.oneIn(4)) typeFour(p, p.oneIn(4) ? random.nextInt() : someText(p));
+        break;
     }
   }
 
-  private static int lookAtMatch(Object answer, int run, StringBuilder calls, GrammarMachine x, Model y) {
-    if (answer instanceof Integer) matches++;
-    compare(run, calls, "farthest()", x::farthest, y::farthest);
-    compare(run, calls, "tried()", x::tried, y::tried);
-    Object count = compare(run, calls, "captures()", x::captures, y::captures);
-    int made = 3;
-    for (int i = 0; i < (Integer) count; i++) {
-      int at = i;
-      compare(run, calls, "capture(" + i + ", 0)", () -> x.capture(at, 0), () -> y.capture(at, 0));
-      compare(run, calls, "capture(" + i + ", 1)", () -> x.capture(at, 1), () -> y.capture(at, 1));
-      captured++;
-      made += i % 8 == 0 ? 1 : 0;
-    }
-    return made;
+  private static void typeFour(Pair p, int four) {
+    p.compare("type(" + four + ")", () -> p.x.type(four), () -> p.y.type(four));
   }
 
-  private static int defineLine(Random random, int run, StringBuilder calls, GrammarMachine x, Model y) {
-    String line = "" + (char) ('A' + random.nextInt(4)) + '=' + someChoice(random, random.nextInt(4));
-    while (line.length() > 20) line = line.substring(0, 2) + someChoice(random, random.nextInt(4));
-    if (random.nextInt(6) == 0) line = spoilt(random, line);
-    int made = 1;
+  private static void lookAtCapture(Pair p, int i, int what) {
+    p.compare("capture(" + i + ", " + what + ")", () -> p.x.capture(i, what), () -> p.y.capture(i, what));
+  }
+
+  private static void lookAtMatch(Pair p, Object answer) {
+    p.compare("farthest()", p.x::farthest, p.y::farthest);
+    p.compare("tried()", p.x::tried, p.y::tried);
+    int captures = (Integer) p.compare("captures()", p.x::captures, p.y::captures);
+    for (int i = 0; i < captures; i++) {
+      lookAtCapture(p, i, 0);
+      lookAtCapture(p, i, 1);
+    }
+    boolean matched = answer instanceof Integer;
+    count(matched ? "matches" : "refused matches", true);
+    count("failed matches", matched && (Integer) answer == -1);
+    count("nothing failed", matched && p.y.farthest() == -1);
+    count("captures", matched && captures > 0);
+    count("40 captures kept", matched && captures == 40);
+    count("more than 20 pairs", matched && p.y.tried() > 20);
+  }
+
+  private static void defineLine(Pair p, int rule) {
+    String line = someLine(p, rule);
+    if (p.oneIn(6)) line = spoilt(p, line);
     for (int at = 0; at < line.length();) {
-      int size = Math.min(line.length() - at, random.nextInt(4) + 1);
-      int four = fourOf(line.substring(at, at + size));
-      compare(run, calls, "type(" + four + ")", () -> x.type(four), () -> y.type(four));
+      int size = Math.min(line.length() - at, p.random.nextInt(4) + 1);
+      typeFour(p, DueAnswers.four(line.substring(at, at + size)));
       at += size;
-      made++;
     }
-    calls.append("  (that is ").append(line).append(")\n");
-    Object rule = compare(run, calls, "define()", x::define, y::define);
-    if (rule instanceof Integer) defined++;
-    else refused++;
-    return made;
+    p.calls.append("  (that is ").append(line).append(")\n");
+    Object answer = p.compare("define()", p.x::define, p.y::define);
+    count(answer instanceof Integer ? "defined" : "refused", true);
+    count("refused as too deep", p.y.refusedAsTooDeep);
   }
 
-  private static int fourOf(String s) {
-    int four = 0;
-    for (int i = s.length() - 1; i >= 0; i--) four = four << 8 | s.charAt(i);
-    return four;
-  }
-
-  private static int someText(Random random) {
+  private static int someText(Pair p) {
     StringBuilder s = new StringBuilder();
-    int size = random.nextInt(5);
-    for (int i = 0; i < size; i++) s.append("aaaabbbbcd1~".charAt(random.nextInt(12)));
-    return fourOf(s.toString());
+    int size = p.random.nextInt(5);
+    for (int i = 0; i < size; i++) s.append(p.oneOf(p.taste.characters()));
+    return DueAnswers.four(s.toString());
   }
 
-  private static String spoilt(Random random, String line) {
-    String marks = "ABCDEabz09.[]-(){}*+?&!/= ";
-    int at = random.nextInt(line.length());
-    char mark = marks.charAt(random.nextInt(marks.length()));
-    switch (random.nextInt(3)) {
+  private static String spoilt(Pair p, String line) {
+    int at = p.random.nextInt(line.length());
+    char mark = p.oneOf("ABCDEabz09.[]-(){}*+?&!/= ");
+    switch (p.random.nextInt(3)) {
       case 0: return line.substring(0, at) + mark + line.substring(at + 1);
       case 1: return line.substring(0, at) + line.substring(at + 1);
       default: return line.substring(0, at) + mark + line.substring(at);
     }
   }
 
-  private static String someChoice(Random random, int depth) {
-    StringBuilder s = new StringBuilder(someSequence(random, depth));
-    while (random.nextInt(3) == 0) s.append('/').append(someSequence(random, depth));
-    return s.toString();
+  private static String someLine(Pair p, int rule) {
+    return (char) ('A' + rule) + "=" + someChoice(p, rule, p.random.nextInt(p.taste.depth() + 1), 18);
   }
 
-  private static String someSequence(Random random, int depth) {
+  /** A choice of at most so many characters as there is room for, at least one. */
+  private static String someChoice(Pair p, int rule, int depth, int room) {
     StringBuilder s = new StringBuilder();
+    boolean first = true;
     do {
-      while (random.nextInt(7) == 0) s.append(random.nextBoolean() ? '&' : '!');
-      s.append(someAtom(random, depth));
-      if (random.nextInt(4) == 0) s.append("*+?".charAt(random.nextInt(3)));
-    } while (random.nextInt(5) < 3);
+      if (!first && p.oneIn(p.taste.endOneIn()) && s.length() < room - 1) {
+        s.append('/');
+        first = true;
+      }
+      if (first && p.taste.dotsFirst() && s.length() < room - 1) s.append('.');
+      s.append(someItem(p, rule, depth, room - s.length()));
+      first = false;
+    } while (s.length() < room && !p.oneIn(p.taste.endOneIn()));
     return s.toString();
   }
 
-  private static String someAtom(Random random, int depth) {
-    switch (random.nextInt(depth > 0 ? 12 : 8)) {
-      case 0: case 1: case 2: return "" + "aabbc1".charAt(random.nextInt(6));
-      case 3: return ".";
-      case 4: return random.nextInt(3) == 0 ? "[" + "ab09z".charAt(random.nextInt(5)) + "-" + "bcz9a".charAt(random.nextInt(5)) + "]" : "a";
-      case 5: case 6: return "" + (char) ('A' + random.nextInt(4));
-      case 7: return "{}";
-      case 8: case 9: return "(" + someChoice(random, depth - 1) + ")";
-      default: return "{" + someChoice(random, depth - 1) + "}";
-    }
+  private static String someItem(Pair p, int rule, int depth, int room) {
+    StringBuilder s = new StringBuilder();
+    while (s.length() < room - 1 && p.oneIn(p.taste.lookOneIn())) s.append(p.oneOf("&!"));
+    s.append(someAtom(p, rule, depth, room - s.length()));
+    if (s.length() < room && p.oneIn(p.taste.markOneIn())) s.append(p.oneOf("*+?"));
+    return s.toString();
   }
 
-  /** A piece of a pattern: its kind is a . A ( { * + ? & ! , (a sequence) or / (a choice). */
-  static final class Node {
-    final char kind;
-    final List<Node> parts = new ArrayList<>();
-    char low;
-    char high;
-
-    Node(char kind) {
-      this.kind = kind;
+  private static String someAtom(Pair p, int rule, int depth, int room) {
+    for (int i = 0; i < 10; i++) {
+      String atom = atomOfKind(p.oneOf(p.taste.atoms()), p, rule, depth, room);
+      if (!atom.isEmpty()) return atom;
     }
-
-    Node(char kind, Node part) {
-      this.kind = kind;
-      parts.add(part);
-    }
-
-    Node part() {
-      return parts.get(0);
-    }
+    return ".";
   }
 
-  static final class Result {
-    final int end;
-    final List<int[]> captures;
-
-    Result(int end, List<int[]> captures) {
-      this.end = end;
-      this.captures = captures;
-    }
-  }
-
-  static final class Model {
-    String line = "";
-    String text = "";
-    final String[] lines = new String[4];
-    final Node[] patterns = new Node[4];
-    List<int[]> captures = new ArrayList<>();
-    int farthest = -1;
-    Set<String> pairs = new HashSet<>();
-    int steps;
-
-    private static String typed(int four) {
-      StringBuilder s = new StringBuilder();
-      for (int rest = four; (rest & 255) != 0; rest >>>= 8) s.append((char) (rest & 255));
-      if (!s.toString().matches("[ -~]*")) throw new IllegalArgumentException();
-      return s.toString();
-    }
-
-    boolean type(int four) {
-      String longer = line + typed(four);
-      if (longer.length() > 20) return false;
-      line = longer;
-      return true;
-    }
-
-    boolean text(int four) {
-      String longer = text + typed(four);
-      if (longer.length() > 9) return false;
-      text = longer;
-      return true;
-    }
-
-    int clear() {
-      int had = text.length();
-      text = "";
-      return had;
-    }
-
-    int define() {
-      String read = line;
-      line = "";
-      if (!read.matches("[A-D]=.+")) throw new IllegalArgumentException();
-      Node pattern = choice(read.substring(2));
-      if (pattern == null || deepest(read) > 6) throw new IllegalArgumentException();
-      int rule = read.charAt(0) - 'A';
-      patterns[rule] = pattern;
-      lines[rule] = read;
-      return rule;
-    }
-
-    private static int deepest(String s) {
-      int depth = 0;
-      int most = 0;
-      for (char c : s.toCharArray()) {
-        if (c == '(' || c == '{') most = Math.max(most, ++depth);
-        if (c == ')' || c == '}') depth--;
-      }
-      return most;
-    }
-
-    /** Where the bracket at i is closed, -1 when it is not. */
-    private static int closing(String s, int i) {
-      StringBuilder open = new StringBuilder();
-      for (int k = i; k < s.length(); k++) {
-        char c = s.charAt(k);
-        if (c == '(' || c == '{') open.append(c == '(' ? ')' : '}');
-        if (c == ')' || c == '}') {
-          if (open.charAt(open.length() - 1) != c) return -1;
-          open.setLength(open.length() - 1);
-          if (open.length() == 0) return k;
-        }
-      }
-      return -1;
-    }
-
-    private static Node choice(String s) {
-      Node node = new Node('/');
-      int from = 0;
-      int depth = 0;
-      for (int i = 0; i <= s.length(); i++) {
-        char c = i < s.length() ? s.charAt(i) : '/';
-        if (c == '(' || c == '{') depth++;
-        if (c == ')' || c == '}') depth--;
-        if (i == s.length() || (c == '/' && depth == 0)) {
-          Node sequence = sequence(s.substring(from, i));
-          if (sequence == null) return null;
-          node.parts.add(sequence);
-          from = i + 1;
-        }
-      }
-      return node;
-    }
-
-    private static Node sequence(String s) {
-      if (s.isEmpty()) return null;
-      Node node = new Node(',');
-      int i = 0;
-      while (i < s.length()) {
-        String signs = "";
-        while (i < s.length() && "&!".indexOf(s.charAt(i)) >= 0) signs = s.charAt(i++) + signs;
-        if (i == s.length()) return null;
-        int end = i + 1;
-        if (s.charAt(i) == '(' || s.charAt(i) == '{') end = closing(s, i) + 1;
-        if (s.charAt(i) == '[') end = s.indexOf(']', i) + 1;
-        if (end == 0) return null;
-        Node piece = atom(s.substring(i, end));
-        if (piece == null) return null;
-        i = end;
-        if (i < s.length() && "*+?".indexOf(s.charAt(i)) >= 0) piece = new Node(s.charAt(i++), piece);
-        for (char sign : signs.toCharArray()) piece = new Node(sign, piece);
-        node.parts.add(piece);
-      }
-      return node;
-    }
-
-    private static Node atom(String s) {
-      if (s.equals("{}")) return new Node('{');
-      if (s.length() > 1 && (s.charAt(0) == '(' || s.charAt(0) == '{')) {
-        Node inside = choice(s.substring(1, s.length() - 1));
-        return inside == null ? null : new Node(s.charAt(0), inside);
-      }
-      if (s.matches("\\[[a-z0-9]-[a-z0-9]\\]")) return range(s.charAt(1), s.charAt(3));
-      if (s.equals(".")) return range((char) 0, (char) 1000);
-      if (s.matches("[a-z0-9]")) return range(s.charAt(0), s.charAt(0));
-      if (!s.matches("[A-D]")) return null;
-      Node name = new Node('A');
-      name.low = (char) (s.charAt(0) - 'A');
-      return name;
-    }
-
-    private static Node range(char low, char high) {
-      Node node = new Node('a');
-      node.low = low;
-      node.high = high;
-      return node;
-    }
-
-    private static void refuse(int rule) {
-      if (rule < 0 || rule > 3) throw new IndexOutOfBoundsException();
-    }
-
-    boolean drop(int rule) {
-      refuse(rule);
-      boolean was = patterns[rule] != null;
-      patterns[rule] = null;
-      lines[rule] = null;
-      return was;
-    }
-
-    char shown(int rule, int k) {
-      if (rule < 0 || rule > 3 || lines[rule] == null || k < 0 || k >= lines[rule].length()) return 0;
-      return lines[rule].charAt(k);
-    }
-
-    int check(int rule) {
-      refuse(rule);
-      Set<Integer> needed = new TreeSet<>();
-      use(rule, needed);
-      for (int other : needed) if (patterns[other] == null) return 1;
-      for (int other : needed) if (startsWith(other, other, new HashSet<>())) return 2;
-      for (int other : needed) if (goesRound(patterns[other])) return 3;
-      return 0;
-    }
-
-    private void use(int rule, Set<Integer> needed) {
-      if (needed.add(rule) && patterns[rule] != null) useNames(patterns[rule], needed);
-    }
-
-    private void useNames(Node node, Set<Integer> needed) {
-      if (node.kind == 'A') use(node.low, needed);
-      for (Node part : node.parts) useNames(part, needed);
-    }
-
-    private boolean startsWith(int rule, int sought, Set<Integer> seen) {
-      if (!seen.add(rule)) return false;
-      Set<Integer> starts = new TreeSet<>();
-      start(patterns[rule], starts);
-      for (int other : starts) if (other == sought || startsWith(other, sought, seen)) return true;
-      return false;
-    }
-
-    private void start(Node node, Set<Integer> starts) {
-      if (node.kind == 'A') starts.add((int) node.low);
-      for (Node part : node.parts) {
-        start(part, starts);
-        if (node.kind == ',' && !emptyable(part, new HashSet<>())) return;
-      }
-    }
-
-    /** A rule that is asked for while it is being asked for does not follow to be empty-able from that. */
-    private boolean emptyable(Node node, Set<Integer> open) {
-      switch (node.kind) {
-        case 'a': return false;
-        case '*': case '?': case '&': case '!': return true;
-        case '{': return node.parts.isEmpty() || emptyable(node.part(), open);
-        case '(': case '+': return emptyable(node.part(), open);
-        case ',':
-          for (Node part : node.parts) if (!emptyable(part, open)) return false;
-          return true;
-        case '/':
-          for (Node part : node.parts) if (emptyable(part, open)) return true;
-          return false;
-        default: {
-          int rule = node.low;
-          if (patterns[rule] == null || open.contains(rule)) return false;
-          Set<Integer> more = new HashSet<>(open);
-          more.add(rule);
-          return emptyable(patterns[rule], more);
-        }
-      }
-    }
-
-    private boolean goesRound(Node node) {
-      if ((node.kind == '*' || node.kind == '+') && emptyable(node.part(), new HashSet<>())) return true;
-      for (Node part : node.parts) if (goesRound(part)) return true;
-      return false;
-    }
-
-    int match(int rule, int place) {
-      refuse(rule);
-      if (place < 0 || place > text.length()) throw new IndexOutOfBoundsException();
-      if (check(rule) != 0) throw new IllegalStateException();
-      return matchRule(rule, place);
-    }
-
-    int find(int rule) {
-      refuse(rule);
-      if (check(rule) != 0) throw new IllegalStateException();
-      for (int place = 0; place <= text.length(); place++) if (matchRule(rule, place) >= 0) return place;
-      return -1;
-    }
-
-    private int matchRule(int rule, int place) {
-      steps = 0;
-      farthest = -1;
-      pairs = new HashSet<>();
-      Node name = new Node('A');
-      name.low = (char) rule;
-      Result result = result(name, place);
-      captures = result == null ? new ArrayList<>() : result.captures;
-      if (captures.size() > 40) captures = captures.subList(0, 40);
-      return result == null ? -1 : result.end;
-    }
-
-    private static List<int[]> joined(List<int[]> one, List<int[]> other) {
-      List<int[]> all = new ArrayList<>(one);
-      all.addAll(other);
-      return all;
-    }
-
-    private Result result(Node node, int place) {
-      if (++steps > 200000) throw new TooLong();
-      switch (node.kind) {
-        case 'a':
-          if (place < text.length() && text.charAt(place) >= node.low && text.charAt(place) <= node.high) {
-            return new Result(place + 1, List.of());
-          }
-          farthest = Math.max(farthest, place);
-          return null;
-        case 'A':
-          pairs.add((int) node.low + " at " + place);
-          return result(patterns[node.low], place);
-        case '(':
-          return result(node.part(), place);
-        case '{': {
-          Result inside = node.parts.isEmpty() ? new Result(place, List.of()) : result(node.part(), place);
-          if (inside == null) return null;
-          return new Result(inside.end, joined(List.of(new int[] {place, inside.end}), inside.captures));
-        }
-        case '?': {
-          Result inside = result(node.part(), place);
-          return inside == null ? new Result(place, List.of()) : inside;
-        }
-        case '+': {
-          Result first = result(node.part(), place);
-          if (first == null) return null;
-          Result rest = turns(node.part(), first.end);
-          return new Result(rest.end, joined(first.captures, rest.captures));
-        }
-        case '*':
-          return turns(node.part(), place);
-        case '&':
-          return result(node.part(), place) == null ? null : new Result(place, List.of());
-        case '!':
-          return result(node.part(), place) == null ? new Result(place, List.of()) : null;
-        case '/':
-          for (Node sequence : node.parts) {
-            Result one = result(sequence, place);
-            if (one != null) return one;
-          }
-          return null;
-        default: {
-          Result all = new Result(place, List.of());
-          for (Node item : node.parts) {
-            Result next = result(item, all.end);
-            if (next == null) return null;
-            all = new Result(next.end, joined(all.captures, next.captures));
-          }
-          return all;
-        }
-      }
-    }
-
-    private Result turns(Node part, int place) {
-      Result all = new Result(place, List.of());
-      for (Result next = result(part, place); next != null; next = result(part, all.end)) {
-        all = new Result(next.end, joined(all.captures, next.captures));
-      }
-      return all;
-    }
-
-    int captures() {
-      return captures.size();
-    }
-
-    int capture(int i, int what) {
-      if (i < 0 || i >= captures.size() || what < 0 || what > 1) throw new IndexOutOfBoundsException();
-      return captures.get(i)[what];
-    }
-
-    int farthest() {
-      return farthest;
-    }
-
-    int tried() {
-      return pairs.size();
+  /** Nothing when there is no room for that kind, no depth, or no such rule. */
+  private static String atomOfKind(char kind, Pair p, int rule, int depth, int room) {
+    boolean inside = depth > 0 && room >= 3;
+    switch (kind) {
+      case '.': return ".";
+      case 'N': return "" + p.oneOf("ABCD");
+      case 'L': return rule < 3 ? "" + p.oneOf("ABCD".substring(rule + 1)) : "";
+      case 'E': return room >= 2 ? "{}" : "";
+      case '[': return room >= 5 ? "[" + p.oneOf("ab09z") + "-" + p.oneOf("bcz9a") + "]" : "";
+      case '(': return inside ? "(" + someChoice(p, rule, depth - 1, room - 2) + ")" : "";
+      case '{': return inside ? "{" + someChoice(p, rule, depth - 1, room - 2) + "}" : "";
+      default: return "" + p.oneOf(p.taste.letters());
     }
   }
 }
